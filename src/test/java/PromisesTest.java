@@ -46,6 +46,7 @@ public final class PromisesTest {
         again();
         count();
         row();
+        full();
         Talk.close();
     }
 
@@ -179,6 +180,15 @@ public final class PromisesTest {
         due(t.x.count(1), 4);
         due(t.x.word(3, 2), 9);
         due(t.x.word(2, 1), 0);
+        Talk.promise(5, "words: nothing is left of what can't come");
+        due(t.text("1aeioua;2?").words(), -10);
+        due(t.text("1zz").words(), 1);
+        due(t.x.word(4, 1), 0);
+        due(t.x.word(4, 4), 0);
+        due(t.x.word(4, 8), 0);
+        due(t.x.toll(4, 0), 0);
+        t = new Talk();
+        t.text("0a;12bcdefg;00z;9u").words();
         Talk.promise(5, "words: no room");
         due(t.text(times("1a;", 6) + "1a").words(), -19);
         due(t.text(times("1a;", 6)).words(), -19);
@@ -318,6 +328,7 @@ public final class PromisesTest {
         isWorth("p", 5);
         isWorth("n", 3);
         isWorth("d", 1);
+        isWorth("d*p", 3);
         isWorth("99", 198);
         isWorth("100", 198);
         isWorth("-1", 0);
@@ -505,6 +516,11 @@ public final class PromisesTest {
         }
         due(t.x.count(4), 3);
         due(t.x.count(9), 3);
+        due(t.x.walk(0, 0), 0);
+        due(t.x.count(4), 4);
+        due(t.x.undo(), 3);
+        due(t.x.count(4), 3);
+        due(t.x.traveller(0, 0), 1);
     }
 
     private static void pause() {
@@ -601,9 +617,13 @@ public final class PromisesTest {
         due(t.text("d1").journey(), 0);
         due(t.text("d>").journey(), 0);
         due(t.text("d!").journey(), 0);
+        due(t.text("d<").journey(), 0);
         due(t.text("a9").journey(), 0);
         due(t.text("b>;b>").journey(), 1);
         t.dueRow(1, 0);
+        due(t.text("a<;a<;a>").journey(), 1);
+        t.dueRow(1, 0);
+        due(t.x.undo(), 2);
         due(t.text("w0").journey(), 1);
         due(t.x.count(9), 3);
         Talk.promise(19, "journey: 60 signs");
@@ -779,6 +799,13 @@ public final class PromisesTest {
         due(v.text("21").sentence(0), -200);
         due(v.text("012").sentence(0), 6);
         v.dueRow(1, 0);
+        Talk.promise(22, "sentence: no sign behind the end of THE TEXT");
+        v.x.sign(0x31323132);
+        v.x.end(1);
+        due(v.x.sentence(0), -200);
+        v.x.sign(0x31323132);
+        v.x.end(3);
+        due(v.x.sentence(0), -200);
         Talk.promise(22, "sentence: of as cheap ones the least row");
         Talk w = new Talk();
         w.text("1b;12c;2d;1f").words();
@@ -809,6 +836,12 @@ public final class PromisesTest {
         due(t.x.when(2, 0), 18);
         t.dueRow(0, 12);
         due(t.x.count(4), 30);
+        t.text("h=6").rule();
+        due(t.x.when(2, 0), 1);
+        t.dueRow(0, 2);
+        t.text("1-(h=5)").rule();
+        due(t.x.when(2, 0), 23);
+        t.dueRow(0, 2);
     }
 
     private static void shortest() {
@@ -832,6 +865,14 @@ public final class PromisesTest {
         due(t.x.shortest(5, 0, 4), 8);
         t.dueRow(3, 0);
         due(t.x.shortest(0, 0, 99), 7);
+        Talk u = new Talk();
+        u.text("0ab;1ab;0ab;0a;0e").words();
+        due(u.x.shortest(0, 0, 0), -2);
+        due(u.x.shortest(0, 0, 1), 3);
+        u.text("l*9*(v<1)+(l=1)*50").rule();
+        due(u.x.shortest(0, 0, 20), 0);
+        u.dueRow(2, 18);
+        due(u.x.shortest(0, 0, 9999), 4);
     }
 
     private static void differ() {
@@ -849,9 +890,16 @@ public final class PromisesTest {
         t.dueRow(2);
         due(t.x.differ(2, 3), 3);
         t.dueRow(1);
+        t.text("1bcd").words();
+        due(t.x.differ(6, 4), 5);
+        t.dueRow(5);
+        due(t.x.differ(4, 6), 5);
+        t.dueRow(5);
+        due(t.x.differ(6, 3), 3);
+        t.dueRow(1);
         due(t.x.differ(5, 5), 0);
         t.dueRow(0);
-        for (int wrong : new int[] {-1, 6, LOW, HIGH}) {
+        for (int wrong : new int[] {-1, 7, LOW, HIGH}) {
             due(t.x.differ(wrong, 0), -1);
             due(t.x.differ(0, wrong), -1);
         }
@@ -1046,6 +1094,13 @@ public final class PromisesTest {
         v.text("a10=8;a10=0;a20=8;a10=8").errands();
         due(v.x.best(0), 16);
         v.dueRow(5, 7);
+        Talk w = new Talk();
+        w.text("1a").words();
+        w.text("0:0;0:0").travellers();
+        w.text("b10=99;a10=1").errands();
+        w.x.sheet(2, 2, 9999, 0);
+        due(w.x.best(0), 1);
+        w.dueRow(2, 1);
     }
 
     private static void takes() {
@@ -1085,6 +1140,8 @@ public final class PromisesTest {
         due(u.x.takes(0, 1), 0);
         u.text("0-50").rule();
         due(u.x.takes(0, 7), 14);
+        due(u.x.takes(0, 99), 99);
+        u.dueRow(1);
     }
 
     private static void greed() {
@@ -1110,6 +1167,9 @@ public final class PromisesTest {
         u.text("0-1").rule();
         due(u.x.greed(0), 99);
         u.dueRow(99, 0);
+        u.text("98").rule();
+        due(u.x.greed(0), 1);
+        u.dueRow(99, 98);
     }
 
     private static void law() {
@@ -1220,6 +1280,9 @@ public final class PromisesTest {
         t.dueRow(0, 60);
         due(t.x.count(4), 60);
         due(t.x.count(9), 0);
+        due(t.x.years(3, 1), 0);
+        t.dueRow(0, 1);
+        due(t.x.count(4), 61);
         for (int seed : new int[] {0, 1, -1, 12345, LOW, HIGH, 987654321}) {
             Talk v = Talk.example();
             v.x.sheet(2, 2, 60, 1);
@@ -1263,6 +1326,14 @@ public final class PromisesTest {
         }
         due(v.x.years(5, 20), 0);
         v.dueRow(paid, failed);
+        Talk.promise(37, "years: ERRANDS that were done ahead of it do not count");
+        v.text("").rule();
+        v.text("a10=1").errands();
+        v.x.say(0, 0);
+        v.text("a10=1").errands();
+        due(v.x.years(5, 20), 1);
+        due(v.x.count(5), 3);
+        due(v.x.years(5, 20), 0);
     }
 
     private static void keep() {
@@ -1351,6 +1422,9 @@ public final class PromisesTest {
         for (int wrong : new int[] {-1, 12, LOW, HIGH}) {
             due(t.x.count(wrong), -1);
         }
+        t = new Talk();
+        t.text("12a;3a;45a").words();
+        due(t.x.count(8), 5);
     }
 
     private static void row() {
@@ -1383,5 +1457,69 @@ public final class PromisesTest {
         t.text("99999").said();
         t.dueRow();
         Talk.dueNoSuch(() -> t.x.row(0));
+    }
+
+    /** As many STATIONS, WORDS, TRAVELLERS, ERRANDS, signs as there can be: each call answers. */
+    private static void full() {
+        Talk.promise(1, "all that has room");
+        Talk t = new Talk();
+        t.x.road(6);
+        due(t.text("00uuuuuu;11uuuuuu;12uuuuuu;23uuuuuu;3uuuuuu").words(), 5);
+        due(t.text("45uuuuuu;5uuuuuu;6uuuuuu;7uuuuuu;99uuuuuu").words(), 5);
+        due(t.text("5:999;5:999;5:999;5:999").travellers(), 4);
+        due(t.text("a05=99;b15=99;c25=99;d35=99;a55=99;b65=99;c75=99;d95=99").errands(), 8);
+        due(t.x.count(8), 1 + 2 + 4 + 8 + 32 + 512);
+        due(t.x.word(9, 8), 6);
+        due(t.x.toll(9, 5), 30);
+        t.dueRow(0, 0, 0, 0, 30);
+        due(t.x.cheapest(9, 5), 9);
+        t.dueRow(30, 1);
+        due(t.text("991212121212").sentence(5), 30 * 6);
+        t.dueRow(9, 2, 2, 2, 2, 2);
+        due(t.text("333333333333").sentence(5), 30 * 12);
+        t.dueRow(4, 4, 4, 4, 4, 4, 4, 4, 4, 4, 4, 4);
+        due(t.x.when(9, 5), 0);
+        due(t.x.shortest(9, 5, 9999), 9);
+        due(t.x.differ(9, 0), 0);
+        due(t.x.near(9), 0);
+        t.dueRow(0, 0);
+        due(t.x.heard(9, 1, 2), 0);
+        t.dueRow(127, 100000);
+        due(t.x.code(0), 10);
+        t.dueRow(1023);
+        due(t.x.code(1), 1);
+        t.dueRow(1);
+        due(t.x.trip(3, 12), 60);
+        t.dueRow(0, 2);
+        due(t.x.haste(3), 0);
+        t.dueRow(60);
+        due(t.x.best(3), 198);
+        t.dueRow(8 + 128, 60);
+        due(t.x.takes(5, 11), 96 * 8);
+        t.dueRow(8);
+        due(t.x.greed(5), 11);
+        t.dueRow(96 * 8, 240);
+        due(t.text("").law(5), 0);
+        t.dueRow(0, 0);
+        due(t.text("00006").said(), 10);
+        t.dueRow(0);
+        due(t.text("00009").said(), 0);
+        due(t.x.ask(), 0);
+        t.dueRow(10);
+        for (int i = 0; i < 14; i++) {
+            due(t.x.say(i % 4, i % 4 == 3 ? 9 : i % 4 * 3), 30);
+        }
+        due(t.x.count(6), 84);
+        due(t.x.count(9), 12);
+        due(t.x.book(5, 4), 84);
+        due(t.text("a9;b9;c9;d9;a<;b<;c<;d<").journey(), 8);
+        t.dueRow(0, 120);
+        due(t.x.years(1, 60) >= 0, true);
+        due(t.x.sheet(2, 4, 9999, 0), 4 * 9999);
+        due(t.x.count(7), 4 * 9999);
+        due(t.x.keep(1), true);
+        due(t.x.again(1), true);
+        due(t.x.road(6), 6);
+        due(t.text("00000000").words(), -1);
     }
 }
