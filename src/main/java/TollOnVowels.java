@@ -571,6 +571,8 @@ public final class TollOnVowels {
         if (n < 1 || n > 60) {
             return NONE;
         }
+        // What is drawn is done on the road itself and taken back: a question changes nothing.
+        past.mark(now);
         Draws draws = new Draws(seed);
         int before = Integer.bitCount(now.done);
         int paid = 0;
@@ -584,8 +586,10 @@ public final class TollOnVowels {
             }
             now.hour++;
         }
+        int done = Integer.bitCount(now.done) - before;
+        past.backToMark(now);
         told.tell(paid, failed);
-        return Integer.bitCount(now.done) - before;
+        return done;
     }
 
     // ---- kept
@@ -1550,12 +1554,17 @@ public final class TollOnVowels {
             }
         }
 
+        /** As it was at the latest mark, if that was not confirmed. */
+        void backToMark(Scene scene) {
+            scene.copy(scenes[slot(size)]);
+        }
+
         boolean takeBack(Scene scene) {
             if (size <= 0) {
                 return false;
             }
             size--;
-            scene.copy(scenes[slot(size)]);
+            backToMark(scene);
             return true;
         }
     }

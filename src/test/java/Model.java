@@ -1061,6 +1061,8 @@ public final class Model {
             return -1;
         }
         drawn = seed & 0xffffffffL;
+        State ahead = now;
+        now = ahead.copy();
         int before = now.done;
         int paid = 0;
         int failed = 0;
@@ -1076,8 +1078,10 @@ public final class Model {
             }
             now.hour++;
         }
+        int done = Integer.bitCount(now.done ^ before);
+        now = ahead;
         tell(paid, failed);
-        return Integer.bitCount(now.done ^ before);
+        return done;
     }
 
     // ---- kept
