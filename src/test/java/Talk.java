@@ -1,8 +1,10 @@
 import java.util.Arrays;
 import java.util.NoSuchElementException;
+import java.util.Set;
 
 /** Talks with one object in texts, and notes every answer that is not the one that is due. */
 final class Talk {
+    private static final Set<String> HELPERS = Set.of("Talk", "Bounds", "Twins");
     private static int wrong = 0;
     private static int asked = 0;
     private static String promise = "";
@@ -17,6 +19,10 @@ final class Talk {
         promise = number + " (" + what + ")";
     }
 
+    static int asked() {
+        return asked;
+    }
+
     static void due(long got, long want) {
         asked++;
         if (got != want) {
@@ -26,6 +32,13 @@ final class Talk {
 
     static void due(boolean got, boolean want) {
         due(got ? 1 : 0, want ? 1 : 0);
+    }
+
+    static void dueSame(String got, String want) {
+        asked++;
+        if (!got.equals(want)) {
+            wrong("it is\n" + got + "\ndue is\n" + want);
+        }
     }
 
     static void dueNoSuch(Call call) {
@@ -42,7 +55,7 @@ final class Talk {
         StackTraceElement[] calls = new Throwable().getStackTrace();
         int line = calls.length == 0 ? 0 : calls[calls.length - 1].getLineNumber();
         for (StackTraceElement call : calls) {
-            if (!call.getClassName().equals("Talk") && !call.getMethodName().equals("due")) {
+            if (!HELPERS.contains(call.getClassName()) && !call.getMethodName().equals("due")) {
                 line = call.getLineNumber();
                 break;
             }
