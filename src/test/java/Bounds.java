@@ -83,6 +83,12 @@ abstract class Bounds {
         return t;
     }
 
+    /** Puts signs behind an empty text. */
+    static TollOnVowels text(TollOnVowels x, String signs) {
+        Talk.put(x, signs);
+        return x;
+    }
+
     /** THE RULE is this one. */
     static Talk by(String rule, Talk t) {
         due(t.text(rule).rule(), 0);

@@ -347,11 +347,6 @@ public final class KeptBoundsTest extends Bounds {
         }, 0, x -> x.again(0) ? 1 : 0);
     }
 
-    private static TollOnVowels text(TollOnVowels x, String signs) {
-        Talk.put(x, signs);
-        return x;
-    }
-
     // ---- count, row
 
     @Says(at = 40, words = "What 0: STATIONS, 1: WORDS, 2: TRAVELLERS, 3: ERRANDS, 4: HOUR,")
@@ -379,6 +374,15 @@ public final class KeptBoundsTest extends Bounds {
         due(t.x.count(7), 4 * 999 - 10 - 15 - 15);
         t.x.sheet(2, 4, 9999, 0);
         due(t.x.count(7), 4 * 9999);
+        // Each VOWEL of each STATION counts, from the first to the last.
+        for (int s = 0; s < 6; s++) {
+            for (int v = 0; v < 5; v++) {
+                Talk one = of(6, "1" + "aeiou".charAt(v), s + ":9", "");
+                one.x.say(0, 0);
+                due(one.x.count(6), 1);
+                due(one.x.book(s, v), 1);
+            }
+        }
     }
 
     @Says(at = 40, words = "8: compounds (bits of WORDS), 9: what can be undone, 10: numbers of the ROW, 11: signs of THE TEXT.")

@@ -12,7 +12,9 @@ public final class QuestionsBoundsTest extends Bounds {
     static void compoundsMeanBothOfTheirs() {
         Talk t = words("0i;9u;45e;54o");
         due(t.x.cheapest(0, 0), 0);
+        t.dueRow(3, 1);
         due(t.x.cheapest(9, 0), 1);
+        t.dueRow(5, 1);
         due(t.x.cheapest(4, 0), 2);
         t.dueRow(2, 2);
         due(t.x.cheapest(5, 0), 2);
@@ -38,6 +40,12 @@ public final class QuestionsBoundsTest extends Bounds {
         Talk t = words("1u;2e;1e;21e;1e;1i");
         due(t.x.cheapest(1, 0), 2);
         due(t.x.cheapest(2, 0), 1);
+        // However many VOWELS or letters it is of.
+        due(words("1ae;1i").x.cheapest(1, 0), 0);
+        due(words("1i;1ae").x.cheapest(1, 0), 0);
+        due(words("1bcdfgi;1i").x.cheapest(1, 0), 0);
+        due(words("1o;1aaa").x.cheapest(1, 0), 1);
+        due(words("1aaa;1e").x.cheapest(1, 0), 1);
     }
 
     @Says(at = 21, words = "the ROW: TOLL, how many WORDS mean it.")
@@ -295,6 +303,9 @@ public final class QuestionsBoundsTest extends Bounds {
         due(t.x.shortest(0, 0, 9999), 2);
         Talk u = words("5oa;5ao;5bb;5cc");
         due(u.x.shortest(5, 0, 9999), 2);
+        // One letter fewer is fewer, whatever it costs.
+        due(words("5bcd;5uu").x.shortest(5, 0, 9999), 1);
+        due(words("5uu;5bcd").x.shortest(5, 0, 9999), 0);
     }
 
     @Says(at = 24, words = "the ROW: letters, TOLL.")
@@ -500,6 +511,9 @@ public final class QuestionsBoundsTest extends Bounds {
         t.x.pause(1);
         due(t.x.code(2), 1);
         t.dueRow(4);
+        Talk zero = by("10-(s<0)*(v=1)", of(2, "1a;1e", "", ""));
+        due(zero.x.code(2), 1);
+        zero.dueRow(1);
         Talk u = words("1abu;1xye;1abe;1xyu");
         due(u.x.code(2), 2);
         u.dueRow(2 + 4);
@@ -769,6 +783,13 @@ public final class QuestionsBoundsTest extends Bounds {
         t.x.sheet(2, 1, 3, 0);
         due(t.x.best(0), 12);
         t.dueRow(7, 3);
+        // The least TOLL, however many VOWELS it is of.
+        Talk many = of(1, "1o;1aaa", "0:99", "a10=1");
+        due(many.x.best(0), 1);
+        many.dueRow(1, 3);
+        Talk few = of(1, "1aaa;1e", "0:99", "a10=1");
+        due(few.x.best(0), 1);
+        few.dueRow(1, 2);
     }
 
     @Says(at = 31, words = "the ROW: they (bits: of as much WORTH the cheapest,")
@@ -944,6 +965,9 @@ public final class QuestionsBoundsTest extends Bounds {
         due(t.x.toll(0, 0), 3);
         due(t.text("7").law(0), 2);
         t.dueRow(0, 8);
+        // Nothing is left of the law that was asked ahead of it.
+        due(t.text("").law(0), 1);
+        t.dueRow(1, 0);
     }
 
     @Says(at = 34, words = "how many WORDS cost more by it at a STATION now: how many;")

@@ -350,6 +350,13 @@ public final class RoadBoundsTest extends Bounds {
         due(v.text("w1;a!").journey(), 2);
         v.dueRow(0, 5);
         due(v.x.book(0, 1), 1);
+        // The least TOLL, however many VOWELS it is of.
+        Talk many = of(1, "1o;1aaa", "0:99", "a10=1");
+        due(many.text("a!").journey(), 1);
+        many.dueRow(0, 3);
+        Talk few = of(1, "1aaa;1e", "0:99", "a10=1");
+        due(few.text("a!").journey(), 1);
+        few.dueRow(0, 2);
         // He has not the money for it.
         Talk w = of(1, "1u", "0:4", "a10=1");
         due(w.text("a!").journey(), 0);
@@ -407,11 +414,19 @@ public final class RoadBoundsTest extends Bounds {
 
     @Says(at = 19, words = "-1 - p: the sign at p can't stand there (as words();")
     static void aJourneyFailsAtItsFirstWrongSign() {
-        String[] bad = {"x", "e>", "a", "a;", "aa", "a>>", "a>;", ";", "w", "w;", "w123", "w1;", "a>;b", "a10", "W1", "a>;;a>", "a!?", "a>;w"};
-        int[] at = {0, 0, 1, 1, 1, 2, 3, 0, 1, 1, 3, 3, 4, 2, 0, 3, 2, 4};
+        String[] bad = {"x", ">", "<", "!", "0", "9;a>", "e>", "a", "a;", "aa", "a>>", "a>;", ";", "w", "w;", "w123", "w1;", "a>;b", "a10", "W1", "a>;;a>", "a!?", "a>;w"};
+        int[] at = {0, 0, 0, 0, 0, 0, 0, 1, 1, 1, 2, 3, 0, 1, 1, 3, 3, 4, 2, 0, 3, 2, 4};
         for (int i = 0; i < bad.length; i++) {
             Twins.refusesText(bad[i], -1 - at[i], x -> x.journey());
         }
+        // What stood behind the end is not there.
+        Talk t = of(2, "1b", "0:0", "");
+        t.x.sign(0x613e3b77);
+        t.x.end(1);
+        due(t.x.journey(), -2);
+        t.x.sign(0x77393b77);
+        t.x.end(1);
+        due(t.x.journey(), -2);
     }
 
     @Says(at = 19, words = "60 signs);")
@@ -462,6 +477,42 @@ public final class RoadBoundsTest extends Bounds {
             due(t.x.count(5), want[i][4]);
             due(t.x.traveller(0, 2), want[i][5]);
             due(t.x.count(6), want[i][6]);
+        }
+    }
+
+    @Says(at = 20, words = "The latest walk(), pause(), say(), alms(), journey()")
+    static void whatAnswersZeroIsUndone() {
+        Talk t = of(2, "1b", "1:5;1:0", "a11=1");
+        due(t.x.walk(0, 0), 0);
+        due(t.x.count(9), 1);
+        due(t.x.undo(), 0);
+        due(t.x.traveller(0, 0), 1);
+        due(t.x.say(0, 0), 0);
+        due(t.x.count(9), 1);
+        due(t.x.undo(), 0);
+        due(t.x.count(5), 0);
+    }
+
+    @Says(at = 20, words = "(of 12 that are kept, the latest ones;")
+    static void twelveStayWhereACallIsRefused() {
+        Twins.Ask[] calls = {x -> x.walk(0, 1), x -> x.say(0, 0), x -> x.pause(100), x -> x.pause(0), x -> x.alms(0, 1, 1),
+            x -> text(x, "a>;w9").journey(), x -> text(x, "?").journey(), x -> x.journey(), x -> x.years(1, 60)};
+        for (int many = 11; many <= 26; many++) {
+            for (Twins.Ask call : calls) {
+                Talk t = of(1, "1u", "0:0;0:0", "");
+                for (int i = 1; i <= many; i++) {
+                    t.x.pause(i);
+                }
+                call.of(t.x);
+                int hour = many * (many + 1) / 2;
+                due(t.x.count(4), hour);
+                for (int i = many; i > Math.max(0, many - 12); i--) {
+                    due(t.x.undo() >= 0, true);
+                    hour -= i;
+                    due(t.x.count(4), hour);
+                }
+                due(t.x.undo(), -1);
+            }
         }
     }
 
@@ -670,10 +721,5 @@ public final class RoadBoundsTest extends Bounds {
         keepsWhatCanBeUndone(x -> x.travellers());
         keepsWhatCanBeUndone(x -> x.errands());
         keepsWhatCanBeUndone(x -> x.journey());
-    }
-
-    private static TollOnVowels text(TollOnVowels x, String signs) {
-        Talk.put(x, signs);
-        return x;
     }
 }

@@ -154,6 +154,7 @@ public final class TermsBoundsTest extends Bounds {
     static void aRuleHasAtMost40Signs() {
         due(new Talk().text(times("v+", 19) + "12").rule(), 0);
         due(new Talk().text(times("v+", 20) + "1").rule(), -41);
+        due(by("-" + times("v+", 19) + "v", words("1u")).x.toll(0, 0), 18 * 4);
         Talk t = by("7", words("1a"));
         due(t.text(times("1+", 19) + "111").rule(), -41);
         due(t.x.toll(0, 0), 7);
@@ -592,6 +593,15 @@ public final class TermsBoundsTest extends Bounds {
         due(t.x.traveller(0, 2), 8);
         due(t.x.traveller(1, 1), 6);
         due(t.x.traveller(1, 2), 9);
+        // What is spent has no bound, other than PURSE.
+        Talk rich = by("99", of(1, "1uuuuuu", "0:0", ""));
+        for (int i = 1; i <= 20; i++) {
+            rich.x.sheet(2, 1, 9999, 0);
+            due(rich.x.say(0, 0), 594);
+            due(rich.x.traveller(0, 1), 9405);
+            due(rich.x.traveller(0, 2), 594 * i);
+            due(rich.x.book(0, 4), 6 * i);
+        }
     }
 
     @Says(at = 0, words = "THE BOOK of the STATION counts each VOWEL;")

@@ -328,8 +328,8 @@ public final class TextsBoundsTest extends Bounds {
 
     @Says(at = 6, words = "-1 - p: likewise")
     static void aTravellerFailsAtItsFirstWrongSign() {
-        String[] bad = {"x", "0", "0;", "0:", "0:x", "0:5x", "0:5555", "0:5;", "0:5;0", "0:5;0:", "0:5;;", "0:5:0"};
-        int[] at = {0, 1, 1, 2, 2, 3, 5, 4, 5, 6, 4, 3};
+        String[] bad = {"x", ":5", ":", "0", "0;", "0:", "0:x", "0:5x", "0:5555", "0:5;", "0:5;0", "0:5;0:", "0:5;;", "0:5:0"};
+        int[] at = {0, 0, 0, 1, 1, 2, 2, 3, 5, 4, 5, 6, 4, 3};
         for (int i = 0; i < bad.length; i++) {
             due(new Talk().text(bad[i]).travellers(), -1 - at[i]);
             Twins.refusesText(bad[i], -1 - at[i], x -> x.travellers());
@@ -382,9 +382,9 @@ public final class TextsBoundsTest extends Bounds {
 
     @Says(at = 7, words = "-1 - p: likewise")
     static void anErrandFailsAtItsFirstWrongSign() {
-        String[] bad = {"x", "a", "ax", "a0", "a0x", "a00", "a00:", "a00=", "a00=x", "a00=555", "a00=5x", "a00=5;", "a00=5;a", "a00=5;a0",
+        String[] bad = {"x", "00=1", "=1", "a0=1", "a=1", "a", "ax", "a0", "a0x", "a00", "a00:", "a00=", "a00=x", "a00=555", "a00=5x", "a00=5;", "a00=5;a", "a00=5;a0",
             "a00=5;a00", "a00=5;a00=", "a00=5;;", "a00=5a"};
-        int[] at = {0, 1, 1, 2, 2, 3, 3, 4, 4, 6, 5, 6, 7, 8, 9, 10, 6, 5};
+        int[] at = {0, 0, 0, 2, 1, 1, 1, 2, 2, 3, 3, 4, 4, 6, 5, 6, 7, 8, 9, 10, 6, 5};
         for (int i = 0; i < bad.length; i++) {
             Twins.refusesText(bad[i], -1 - at[i], x -> x.errands());
         }
@@ -436,6 +436,31 @@ public final class TextsBoundsTest extends Bounds {
         due(t.x.toll(0, 0), 5);
         due(t.text("7").rule(), 0);
         due(t.x.toll(0, 0), 7);
+    }
+
+    @Says(at = 8, words = "THE TEXT is THE RULE (an empty one: none): 0.")
+    static void nothingIsLeftOfAnEarlierRule() {
+        String[] rules = {"-(1+2)", "9", "1+2+3+4", "--(1+2)", "99-(1<2)-(3<4)"};
+        for (String rule : rules) {
+            Talk t = words("1u");
+            by(rule, t);
+            by(rule, t);
+            by("", t);
+            due(t.x.toll(0, 0), 5);
+            by(rule, t);
+            by(rule, t);
+            by("1+2", t);
+            due(t.x.toll(0, 0), 3);
+            by("8", t);
+            due(t.x.toll(0, 0), 8);
+            // Neither of one that can't be, nor of a law.
+            due(t.text("5+5+5+?").rule(), -7);
+            due(t.x.toll(0, 0), 8);
+            t.text("6+6").law(0);
+            due(t.x.toll(0, 0), 8);
+            by("", t);
+            due(t.x.toll(0, 0), 5);
+        }
     }
 
     @Says(at = 8, words = "-1 - p: likewise")
