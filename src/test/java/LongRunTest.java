@@ -37,6 +37,18 @@ public final class LongRunTest {
         return x();
     }
 
+    /** Asks for the STATIONS till so many calls are left. */
+    private void till(int calls) {
+        while (left > calls) {
+            Talk.due(x().count(0) > 0, true);
+        }
+    }
+
+    /** Whether all calls were used, and no more. */
+    private void isUsedUp() {
+        Talk.due(left, 0);
+    }
+
     private void says() {
         Talk.due(text("0uuuuuu").words(), 1);
         Talk.due(text("0:999").travellers(), 1);
@@ -49,6 +61,7 @@ public final class LongRunTest {
                 said++;
             }
         }
+        till(7);
         Talk.due(x().traveller(0, 1), 9999 - 16 * 594);
         Talk.due(x().say(0, 0), -2);
         Talk.due(x().traveller(0, 2), said * 594);
@@ -56,6 +69,7 @@ public final class LongRunTest {
         Talk.due(x().count(6), said * 6);
         Talk.due(x().count(4), 0);
         Talk.due(x().count(9), 12);
+        isUsedUp();
     }
 
     private void pauses() {
@@ -66,11 +80,13 @@ public final class LongRunTest {
             hour += 99;
             Talk.due(x().pause(99), hour);
         }
+        till(5);
         Talk.due(x().count(4), hour);
         Talk.due(x().toll(0, 0), hour % 24);
         Talk.due(x().when(0, 0), (24 - hour % 24) % 24);
         Talk.due(x().undo(), 11);
         Talk.due(x().count(4), hour - 99);
+        isUsedUp();
     }
 
     private void walks() {
@@ -87,7 +103,7 @@ public final class LongRunTest {
         Talk.due(x().undo(), -1);
         Talk.due(x().count(4), hour - 12);
         Talk.due(x().traveller(0, 0), hour % 2);
-        Talk.due(left, 0);
+        isUsedUp();
     }
 
     private void journeys() {
@@ -103,10 +119,12 @@ public final class LongRunTest {
             Talk.due(x().row(1), 9);
             done++;
         }
+        till(4);
         Talk.due(x().count(4), 2 + done * 101);
         Talk.due(x().count(9), 12);
         Talk.due(x().traveller(0, 2), (2 + done) * 9);
         Talk.due(x().traveller(0, 1), 999 - (2 + done) * 9);
+        isUsedUp();
     }
 
     private void draws() {
@@ -122,6 +140,7 @@ public final class LongRunTest {
         Talk.due(x().count(5), 0);
         Talk.due(x().count(6), 0);
         Talk.due(x().count(9), 0);
+        isUsedUp();
     }
 
     private void gives() {
@@ -136,5 +155,6 @@ public final class LongRunTest {
         Talk.due(x().count(7), 9999);
         Talk.due(x().traveller(to, 1), 0);
         Talk.due(x().traveller(1 - to, 1), 9999);
+        isUsedUp();
     }
 }
